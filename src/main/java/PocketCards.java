@@ -17,6 +17,7 @@ public final class PocketCards {
     private static final int MOST_ORDERS = 30;
     private static final int MOST_DIGITS = 3;
     private static final int MOST_STATES = 4;
+    private static final int MOST_X = 2147483647;
 
     private static final int SILENCE = 300;
     private static final int CLASH = 400;
@@ -508,7 +509,7 @@ public final class PocketCards {
             if (answer < CLASH) {
                 return;
             }
-            int stemLength = skips ? answer - CLASH : length;
+            int stemLength = skips ? Math.max(length, answer - CLASH) : length;
             int stem = firstBits(state.clashName, stemLength);
             walkFrom(state, stemLength + 1, 2 * stem, skips);
             walkFrom(state, stemLength + 1, 2 * stem + 1, skips);
@@ -544,7 +545,7 @@ public final class PocketCards {
                 return 0;
             }
             // The product may wrap around: the low 31 bits are right all the same.
-            x = (x * 1103515245 + 12345) & Integer.MAX_VALUE;
+            x = (x * 1103515245 + 12345) & MOST_X;
             return (x / 65536) % below;
         }
 

@@ -108,6 +108,7 @@ public final class AskingTest {
         Checks.due("leaving: cards that left", x.total(14), 3);
         Checks.due("leaving: cards", x.total(0), 1);
         Checks.due("leaving: 200 stays", x.card(0), 200);
+        Checks.due("leaving: 200 is not going to", x.ofCard(200, 1), 0);
         PocketCards y = Checks.pocketOf(1, 2);
         y.leave(1, 1);
         y.leave(2, 1);
@@ -245,6 +246,11 @@ public final class AskingTest {
         z.leave(10, 7);
         Checks.due("frame leaving: behind its slot", z.frame(8), 1);
         Checks.due("frame leaving: gone", z.total(0), 0);
+        // 10 leaves behind the slot 0, and 20 behind the slot 9, ahead of its slot 62.
+        PocketCards v = Checks.pocketOf(10, 20);
+        v.leave(10, 1);
+        v.leave(20, 10);
+        Checks.due("frame leaving: slots stay with their cards", v.frame(64), 0);
         PocketCards w = Checks.pocketOf(1);
         w.leave(1, 65);
         w.sleep(1);
@@ -295,6 +301,17 @@ public final class AskingTest {
             Checks.due("by parts: rounds(" + firsts[i] + ")", x.rounds(firsts[i]), frames[i]);
             Checks.due("by parts: slots of " + firsts[i], x.total(5), slots[i]);
         }
+        // The sizes 2 (both clash), 4 (a half), 4 (a quarter), 2, 2, 2.
+        PocketCards y = Checks.pocketOf(10, 20, 30, 40, 50);
+        y.set(1, 2);
+        Checks.due("by parts: rounds(2) of five", y.rounds(2), 6);
+        Checks.due("by parts: slots of five", y.total(5), 16);
+        // The sizes 3 (two clash), 6 (one), then 3 (one) as long as it needs.
+        PocketCards z = Checks.pocketOf(10, 20, 30, 40, 50, 60);
+        z.set(1, 2);
+        Checks.due("by parts: rounds(3) of six", z.rounds(3), 7);
+        Checks.due("by parts: slots of six", z.total(5), 24);
+        Checks.dueTold("by parts", z, 30, 60, 20, 10, 50, 40);
     }
 
     private static void roundsOfThoseThatLeave() {

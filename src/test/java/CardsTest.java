@@ -49,6 +49,10 @@ public final class CardsTest {
         Checks.due("put(-1) into a full pocket", x.put(-1), -2);
         Checks.due("put a card of a full pocket", x.put(20), -4);
         Checks.due("put: cards", x.total(0), 20);
+        Checks.due("take from a full pocket", x.take(4), 19);
+        Checks.due("take from a full pocket: the last", x.card(18), 255);
+        Checks.due("take from a full pocket: the one ahead", x.card(17), 100);
+        Checks.due("put with room again", x.put(254), 20);
     }
 
     /** A card that comes again is a new one. */
@@ -62,6 +66,13 @@ public final class CardsTest {
         Checks.due("put again: leaves", x.ofCard(9, 1), 0);
         Checks.due("put again: tellings", x.ofCard(9, 2), 0);
         Checks.dueTold("put again", x, 9);
+        PocketCards y = Checks.pocketOf(9);
+        y.sleep(9);
+        y.leave(9, 5);
+        y.take(9);
+        y.put(9);
+        Checks.due("put alone again: awake", y.ofCard(9, 0), 1);
+        Checks.due("put alone again: leaves", y.ofCard(9, 1), 0);
     }
 
     private static void take() {

@@ -1,8 +1,14 @@
+import java.util.Arrays;
+import java.util.LinkedHashMap;
+import java.util.Map;
+import java.util.function.ToIntFunction;
+
 /** Promises 17 to 19: undo and the snapshot. */
 public final class HistoryTest {
     public static void main(String[] args) {
         undo();
         undoRestoresAll();
+        eachChange();
         keep();
         restore();
         Checks.end("HistoryTest");
@@ -49,6 +55,39 @@ public final class HistoryTest {
         x.undo();
         Checks.due("undo perform: not the text", x.total(16), 2);
         Checks.due("undo perform: cards", x.total(0), before[0]);
+    }
+
+    /** Each change records the state before it, and undo brings just that back. */
+    private static void eachChange() {
+        Map<String, ToIntFunction<PocketCards>> changes = new LinkedHashMap<>();
+        changes.put("put", x -> x.put(5));
+        changes.put("take", x -> x.take(20));
+        changes.put("sleep", x -> x.sleep(30));
+        changes.put("wakeAll", x -> x.wakeAll());
+        changes.put("leave", x -> x.leave(20, 3));
+        changes.put("set", x -> x.set(1, 1));
+        changes.put("shuffle", x -> x.shuffle(4));
+        changes.put("forget", x -> x.forget());
+        changes.put("ask", x -> x.ask(0, 0));
+        changes.put("walk", x -> x.walk(true));
+        changes.put("frame", x -> x.frame(16));
+        changes.put("rounds", x -> x.rounds(2));
+        changes.put("perform", x -> x.perform());
+        changes.put("restore", x -> x.restore());
+        changes.forEach((name, change) -> {
+            PocketCards x = Checks.pocketOf(30);
+            x.keep();
+            x.put(20);
+            x.put(10);
+            x.leave(20, 9);
+            x.ask(8, 10);
+            Checks.write(x, "+8;v");
+            long[] before = everything(x);
+            Checks.due(name + " is possible", change.applyAsInt(x) >= 0 ? 1 : 0, 1);
+            Checks.due(name + " changes something", Arrays.equals(before, everything(x)) ? 1 : 0, 0);
+            Checks.due(name + " is undone", x.undo(), 3);
+            Checks.due(name + " is undone wholly", Arrays.equals(before, everything(x)) ? 1 : 0, 1);
+        });
     }
 
     private static long[] everything(PocketCards x) {

@@ -28,6 +28,7 @@ public final class WhatThereIsTest {
         Checks.due("ofCard alone", x.ofCard(0, 3), -5);
         x.put(255);
         Checks.due("ofCard: nothing shared", x.ofCard(0, 3), 0);
+        Checks.due("ofCard: the least shares most", Checks.pocketOf(0, 1, 9).ofCard(1, 3), 7);
         x.put(3);
         x.put(2);
         x.sleep(3);

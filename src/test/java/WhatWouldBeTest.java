@@ -23,6 +23,12 @@ public final class WhatWouldBeTest {
         dueWalk(y, true, 3, 12 + 12 + 11, 1, 1, 5);
         y.set(0, 0);
         dueWalk(y, true, 3, 12 + 12 + 11, 1, 1, 5);
+        // What was asked and clashed before, and how far another walk went, is left out.
+        PocketCards z = Checks.pocketOf(64, 65);
+        z.ask(0, 0);
+        dueWalk(z, true, 3, 38, 2, 1, 8);
+        z.take(65);
+        dueWalk(z, true, 1, 12, 1, 0, 0);
         Checks.due("walkTakes(true, -1)", x.walkTakes(true, -1), -2);
         Checks.due("walkTakes(false, 5)", x.walkTakes(false, 5), -2);
         Checks.due("walkTakes(false, least)", x.walkTakes(false, Integer.MIN_VALUE), -2);
@@ -52,6 +58,8 @@ public final class WhatWouldBeTest {
         PocketCards z = Checks.pocketOf(10, 20, 30);
         z.set(0, 0);
         dueRounds(z, 2, 40, 160 + 9 * 10 + 31 * 18, 31, 40, 80);
+        z.rounds(2);
+        Checks.due("roundsTake(64, 3) behind clashes", z.roundsTake(64, 3), 0);
         Checks.due("roundsTake(0, 0)", x.roundsTake(0, 0), -2);
         Checks.due("roundsTake(65, 0)", x.roundsTake(65, 0), -2);
         Checks.due("roundsTake(1, -1)", x.roundsTake(1, -1), -2);
@@ -77,6 +85,15 @@ public final class WhatWouldBeTest {
         PocketCards y = Checks.pocketOf(10, 20);
         y.shuffle(0);
         Checks.due("bestFrame() from 0", y.bestFrame(), 5);
+        // No frame tells any: 26833 and 20599 are both odd, so of two slots both leave ahead of theirs.
+        PocketCards w = Checks.pocketOf(10, 20);
+        w.leave(10, 1);
+        w.leave(20, 1);
+        w.shuffle(23);
+        Checks.due("bestFrame() by the time", w.bestFrame(), 2);
+        // 6186 and 12786: both 0 of 1, 2 and 3, both 2 of 4, both 1 of 5.
+        w.shuffle(230);
+        Checks.due("bestFrame() by the time, then the slots", w.bestFrame(), 4);
         // One of two leaves behind the first slot: of a single slot both clash.
         PocketCards z = Checks.pocketOf(10, 20);
         z.leave(10, 1);
