@@ -1,14 +1,26 @@
+import java.util.HashSet;
+import java.util.Set;
+
 /** Compares answers with those that are due, and ends a test. */
 final class Checks {
     private static int wrong = 0;
+    private static final Set<String> SENTENCES = new HashSet<>();
+    private static String sentence = "";
 
     private Checks() {
+    }
+
+    /** The sentence of the document that the answers from here on belong to. */
+    static void sentence(String words) {
+        sentence = words;
+        SENTENCES.add(words);
     }
 
     static void due(String call, long got, long want) {
         if (got != want) {
             wrong++;
-            System.out.println(call + " answered " + got + ", due is " + want);
+            System.out.println((sentence.isEmpty() ? "" : "[" + sentence + "] ")
+                + call + " answered " + got + ", due is " + want);
         }
     }
 
@@ -24,6 +36,15 @@ final class Checks {
         for (int i = 0; i < names.length; i++) {
             due(when + ": told(" + i + ")", cards.told(i), names[i]);
         }
+    }
+
+    /** The cards by rising names, and no more. */
+    static void dueCards(String when, PocketCards cards, int... names) {
+        due(when + ": total(0)", cards.total(0), names.length);
+        for (int i = 0; i < names.length; i++) {
+            due(when + ": card(" + i + ")", cards.card(i), names[i]);
+        }
+        due(when + ": card(" + names.length + ")", cards.card(names.length), PocketCards.NONE);
     }
 
     static PocketCards pocketOf(int... names) {
@@ -42,8 +63,15 @@ final class Checks {
         }
     }
 
+    static int performed(PocketCards cards, String text) {
+        write(cards, text);
+        return cards.perform();
+    }
+
     static void end(String test) {
-        System.out.println(test + ": " + (wrong == 0 ? "all answers are as due" : wrong + " answers are not as due"));
+        String of = SENTENCES.isEmpty() ? "" : SENTENCES.size() + " sentences, ";
+        System.out.println(test + ": " + of
+            + (wrong == 0 ? "all answers are as due" : wrong + " answers are not as due"));
         if (wrong != 0) {
             System.exit(1);
         }

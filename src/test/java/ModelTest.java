@@ -2,8 +2,11 @@ import java.util.Random;
 
 /** Long runs of calls by lot, each answer compared with that of the plain model. */
 public final class ModelTest {
-    private static final int RUNS = 400;
-    private static final int CALLS = 500;
+    private static final int RUNS = 4000;
+    /** The document says nothing of what comes behind this call. */
+    private static final int LAST_CALL = 512;
+    /** More than one step of a run and one look at all take. */
+    private static final int CALLS_OF_A_STEP = 64;
     private static final String SIGNS = "+-zwvfa;0123456789 x";
     private static final String[] ORDERS = {"+", "+", "-", "z", "w", "v", "f", "a"};
 
@@ -13,6 +16,7 @@ public final class ModelTest {
     private final String run;
     /** Few names in a run make cards meet more often. */
     private final int names;
+    private int calls = 0;
 
     private ModelTest(int run) {
         this.run = "run " + run + ": ";
@@ -23,15 +27,21 @@ public final class ModelTest {
     public static void main(String[] args) {
         for (int run = 0; run < RUNS; run++) {
             ModelTest test = new ModelTest(run);
-            for (int call = 0; call < CALLS; call++) {
+            while (test.calls < LAST_CALL - 2 * CALLS_OF_A_STEP) {
                 test.callOne();
-                test.lookAtAll();
+                if (test.lot.nextInt(30) == 0) {
+                    test.lookAtAll();
+                }
             }
+            test.lookAtAll();
+            Checks.due("run " + run + " ends in time", test.calls <= LAST_CALL ? 1 : 0, 1);
         }
         Checks.end("ModelTest");
     }
 
+    /** Each answer that is compared is that of one call. */
     private void due(String call, int got, int want) {
+        calls++;
         Checks.due(run + call, got, want);
     }
 
