@@ -19,6 +19,8 @@ public final class FramesBoundsTest {
         nAgain();
         twiceTheClashes();
         byParts();
+        ofTheLatestFrame();
+        sizeBounds();
         roundsOfNoCards();
         Checks.end("FramesBoundsTest");
     }
@@ -173,7 +175,7 @@ public final class FramesBoundsTest {
             x.frame(10);
             int silences = x.total(6);
             Checks.due("slots", x.total(6) + x.total(7) + x.total(8), 10);
-            Checks.due("clashes", x.total(8), Lot.clashes(1, cards, 10));
+            Checks.due("clashes", x.total(8), new Lot(1).clashes(cards, 10));
             Checks.due("time of " + cards, x.total(9), 4 + silences + 9 * (10 - silences));
         }
         PocketCards one = Checks.pocketOf(3);
@@ -201,7 +203,7 @@ public final class FramesBoundsTest {
             Checks.due("tellings", y.ofCard(10, 2), i);
         }
         PocketCards z = Pockets.ofSize(20);
-        int start = Lot.from(12, 64, 0);
+        int start = Lot.from(12, new int[] {64}, new int[] {0});
         Checks.due("an x with no clash is found", start >= 0 ? 1 : 0, 1);
         for (int i = 12; i < 20; i++) {
             z.take(10 * i);
@@ -333,27 +335,77 @@ public final class FramesBoundsTest {
         }
     }
 
-    /** All leave behind the last slot of the first frame, so that a second one is all silent, and the last. */
-    private static void dueNext(int sizes, int size, int clashes, int next) {
-        int cards = Math.min(20, 3 * clashes);
-        int start = -1;
-        while (start < 0 && cards >= 2 * clashes) {
-            start = Lot.from(cards, size, clashes);
-            cards -= start < 0 ? 1 : 0;
+    private static void ofTheLatestFrame() {
+        Checks.sentence("FRAMES, sizes 0: n again, whatever the latest frame was like");
+        dueSizes(0, new int[] {8, 8, 8, 8}, 1, 2, 3);
+        dueSizes(0, new int[] {2, 2, 2}, 2, 1);
+        Checks.sentence("FRAMES, sizes 1: the clashes of the latest frame, not of all");
+        dueSizes(1, new int[] {16, 6, 4, 2, 2}, 3, 2, 1, 1);
+        dueSizes(1, new int[] {16, 2, 4, 6}, 1, 2, 3);
+        Checks.sentence("FRAMES, sizes 2: of the latest frame, not of the first");
+        dueSizes(2, new int[] {8, 4, 2, 2, 2}, 2, 1, 1, 1);
+        dueSizes(2, new int[] {1, 2, 4, 4, 2}, 1, 2, 2, 1);
+        dueSizes(2, new int[] {9, 4, 2, 4, 8}, 2, 1, 2, 3);
+        dueSizes(2, new int[] {3, 6, 3, 3}, 2, 1, 1);
+        dueSizes(2, new int[] {64, 32, 16, 8}, 1, 1, 1);
+        dueSizes(2, new int[] {63, 31, 15, 7, 3, 3}, 1, 1, 1, 1, 1);
+    }
+
+    /** Twenty cards clash in ten slots at most, so that no rule leads out of these bounds but for the first size. */
+    private static void sizeBounds() {
+        Checks.sentence("FRAMES: a size is at least 1 and at most 64");
+        int[][] fromOne = {{0, 1}, {1, 2}, {2, 2}};
+        for (int[] row : fromOne) {
+            dueSizes(row[0], new int[] {1, row[1]}, 1);
         }
-        String rounds = "sizes " + sizes + ", rounds(" + size + ") with " + clashes + " clashes";
+        int[][] fromMost = {{0, 64}, {1, 2}, {2, 32}};
+        for (int[] row : fromMost) {
+            dueSizes(row[0], new int[] {64, row[1]}, 1);
+        }
+        dueSizes(0, new int[] {1, 1, 1, 1}, 1, 1, 1);
+        dueSizes(0, new int[] {64, 64, 64}, 1, 1);
+        dueSizes(1, new int[] {19, 20}, 10);
+        dueSizes(2, new int[] {19, 38}, 10);
+    }
+
+    private static void dueNext(int sizes, int size, int clashes, int next) {
+        dueSizes(sizes, new int[] {size, next}, clashes);
+    }
+
+    /**
+     * The sizes of frames with so many clashes, and of one more. All cards stay awake, and leave behind the
+     * last slot of the last frame but one, so that the last one is all silent.
+     */
+    private static void dueSizes(int sizes, int[] slots, int... clashes) {
+        int all = 0;
+        int clashesOfAll = 0;
+        int mostClashes = 1;
+        for (int i = 0; i < clashes.length; i++) {
+            all += slots[i];
+            clashesOfAll += clashes[i];
+            mostClashes = Math.max(mostClashes, clashes[i]);
+        }
+        int cards = 2 * mostClashes;
+        int start = Lot.from(cards, slots, clashes);
+        while (start < 0 && cards < 20) {
+            cards++;
+            start = Lot.from(cards, slots, clashes);
+        }
+        String rounds = "sizes " + sizes + ", rounds(" + slots[0] + ") with " + clashesOfAll + " clashes";
         Checks.due(rounds + ": an x is found", start >= 0 ? 1 : 0, 1);
         PocketCards x = Pockets.ofSize(cards);
+        x.set(0, 0);
         x.set(1, sizes);
         x.shuffle(start);
         for (int i = 0; i < cards; i++) {
-            x.leave(10 * i, size);
+            x.leave(10 * i, all);
         }
-        Checks.due(rounds + ": would clash", x.roundsTake(size, 3), clashes);
-        Checks.due(rounds + ": slots it would take", x.roundsTake(size, 4), size + next);
-        Checks.due(rounds, x.rounds(size), 2);
-        Checks.due(rounds + ": clashes", x.total(8), clashes);
-        Checks.due(rounds + ": slots", x.total(5), size + next);
+        int next = slots[clashes.length];
+        Checks.due(rounds + ": would clash", x.roundsTake(slots[0], 3), clashesOfAll);
+        Checks.due(rounds + ": slots it would take", x.roundsTake(slots[0], 4), all + next);
+        Checks.due(rounds, x.rounds(slots[0]), slots.length);
+        Checks.due(rounds + ": clashes", x.total(8), clashesOfAll);
+        Checks.due(rounds + ": slots", x.total(5), all + next);
         Checks.due(rounds + ": left", x.total(14), cards);
     }
 

@@ -1,5 +1,4 @@
 import java.util.LinkedHashMap;
-import java.util.List;
 import java.util.Map;
 import java.util.function.ToIntFunction;
 
@@ -23,7 +22,7 @@ public final class HistoryBoundsTest {
         Checks.end("HistoryBoundsTest");
     }
 
-    private static void same(String what, List<Integer> got, List<Integer> want) {
+    private static void same(String what, Map<String, Integer> got, Map<String, Integer> want) {
         Checks.due(what + " is as it was", got.equals(want) ? 1 : 0, 1);
     }
 
@@ -53,7 +52,6 @@ public final class HistoryBoundsTest {
         changes.put("sleep", x -> x.sleep(30));
         changes.put("wakeAll", x -> x.wakeAll());
         changes.put("leave", x -> x.leave(20, 3));
-        changes.put("leave no more", x -> x.leave(20, 0));
         changes.put("set 0", x -> x.set(0, 0));
         changes.put("set 1", x -> x.set(1, 0));
         changes.put("shuffle", x -> x.shuffle(4));
@@ -74,15 +72,10 @@ public final class HistoryBoundsTest {
     private static void changesAreRecorded() {
         Checks.sentence("HISTORY: each call of a method that is a change records the state before it");
         changes().forEach((name, change) -> {
-            PocketCards x = new PocketCards();
-            Pockets.mixed(x);
-            x.undo();
-            List<Integer> before = Twins.stateOf(x);
-            Checks.due(name + " is no error", change.applyAsInt(x) >= 0 ? 1 : 0, 1);
-            Checks.due(name + ": states", x.total(15), 4);
-            Checks.due(name + ": undo()", x.undo(), 3);
-            same(name + ": the state", Twins.stateOf(x), before);
+            recorded(name, change, 0);
+            recorded(name, change, 2);
         });
+        recorded("leave no more", x -> x.leave(20, 0), 0);
         Checks.sentence("HISTORY: a change that answers 0 is recorded too");
         PocketCards x = new PocketCards();
         Checks.due("shuffle(0)", x.shuffle(0), 1);
@@ -99,6 +92,32 @@ public final class HistoryBoundsTest {
         Checks.due("leave(0, 1) answers 0", y.leave(0, 1), 0);
         Checks.due("ask(0, 0) answers 0", y.ask(0, 0), 0);
         Checks.due("states", y.total(15), 3);
+    }
+
+    /** A full history stays full, and one with room has one state more. */
+    private static void recorded(String name, ToIntFunction<PocketCards> change, int undone) {
+        PocketCards x = new PocketCards();
+        PocketCards y = new PocketCards();
+        Pockets.mixed(x);
+        Pockets.mixed(y);
+        for (int i = 0; i < undone; i++) {
+            x.undo();
+            y.undo();
+        }
+        if (undone > 0) {
+            // The state of the latest change must not be the one that is due here.
+            x.put(99);
+            y.put(99);
+        }
+        Map<String, Integer> before = Twins.stateOf(x);
+        int states = Math.min(4, x.total(15) + 1);
+        Checks.due(name + " is no error", change.applyAsInt(x) >= 0 ? 1 : 0, 1);
+        Checks.due(name + ": states", x.total(15), states);
+        Checks.due(name + ": undo()", x.undo(), states - 1);
+        same(name + ": the state", Twins.stateOf(x), before);
+        x.undo();
+        y.undo();
+        same(name + ": the state ahead of it", Twins.stateOf(x), Twins.stateOf(y));
     }
 
     private static void othersAreNotRecorded() {
@@ -226,7 +245,7 @@ public final class HistoryBoundsTest {
         Checks.sentence("HISTORY: the state is everything except the text, the history and the snapshot");
         PocketCards x = new PocketCards();
         rich(x);
-        List<Integer> before = Twins.stateOf(x);
+        Map<String, Integer> before = Twins.stateOf(x);
         x.keep();
         x.wakeAll();
         x.set(0, 0);
@@ -243,7 +262,7 @@ public final class HistoryBoundsTest {
         x.leave(21, 1);
         x.wakeAll();
         x.rounds(64);
-        Checks.due("restore()", x.restore(), before.get(0));
+        Checks.due("restore()", x.restore(), before.get("total(0)"));
         same("restored: the state", Twins.stateOf(x), before);
         PocketCards y = new PocketCards();
         PocketCards z = new PocketCards();

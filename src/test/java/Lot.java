@@ -15,13 +15,12 @@ final class Lot {
         return (int) x;
     }
 
-    /** How many slots of the next frame clash, if no card leaves. */
-    static int clashes(int x, int cards, int slots) {
-        Lot lot = new Lot(x);
+    /** How many slots of one more frame clash, if no card leaves or goes to sleep. */
+    int clashes(int cards, int slots) {
         int[] row = new int[slots];
         int clashes = 0;
         for (int i = 0; i < cards; i++) {
-            int slot = lot.draw(slots);
+            int slot = draw(slots);
             row[slot]++;
             if (row[slot] == 2) {
                 clashes++;
@@ -30,10 +29,15 @@ final class Lot {
         return clashes;
     }
 
-    /** The least x from which the next frame has so many clashes; -1 if it is not found soon. */
-    static int from(int cards, int slots, int clashes) {
-        for (int x = 0; x < 3000000; x++) {
-            if (clashes(x, cards, slots) == clashes) {
+    /** The least x from which the next frames have so many clashes; -1 if it is not found soon. */
+    static int from(int cards, int[] slots, int[] clashes) {
+        for (int x = 0; x < 1000000; x++) {
+            Lot lot = new Lot(x);
+            int frame = 0;
+            while (frame < clashes.length && lot.clashes(cards, slots[frame]) == clashes[frame]) {
+                frame++;
+            }
+            if (frame == clashes.length) {
                 return x;
             }
         }

@@ -1,5 +1,8 @@
-import java.util.ArrayList;
-import java.util.List;
+import java.util.Arrays;
+import java.util.Map;
+import java.util.Set;
+import java.util.TreeMap;
+import java.util.TreeSet;
 import java.util.function.Consumer;
 import java.util.function.ToIntFunction;
 
@@ -25,8 +28,8 @@ final class Twins {
             Checks.due(call, made.applyAsInt(one), answer);
             PocketCards other = new PocketCards();
             before.accept(other);
-            List<Integer> got = seen(look, one);
-            List<Integer> want = seen(look, other);
+            Map<String, Integer> got = seen(look, one);
+            Map<String, Integer> want = seen(look, other);
             Checks.due(call + " leaves " + nameOf(look) + " as before", got.equals(want) ? 1 : 0, 1);
         }
     }
@@ -36,44 +39,65 @@ final class Twins {
             : "what " + look + " undo() bring back";
     }
 
-    private static List<Integer> seen(int look, PocketCards x) {
-        List<Integer> row = new ArrayList<>();
+    private static Map<String, Integer> seen(int look, PocketCards x) {
+        Map<String, Integer> answers = new TreeMap<>();
         if (look == TEXT) {
-            row.add(x.perform());
+            answers.put("perform()", x.perform());
         } else if (look == SNAPSHOT) {
-            row.add(x.restore());
+            answers.put("restore()", x.restore());
         } else {
             for (int i = 0; i < look && i < MOST_UNDONE; i++) {
-                row.add(x.undo());
+                answers.put("undo() " + i, x.undo());
             }
         }
-        row.addAll(everything(x));
-        return row;
+        answers.putAll(everything(x));
+        return answers;
     }
 
-    /** All that can be seen without a change. */
-    static List<Integer> everything(PocketCards x) {
-        List<Integer> row = new ArrayList<>();
+    /** All that can be seen without a change, by what it is. */
+    static Map<String, Integer> everything(PocketCards x) {
+        Map<String, Integer> row = new TreeMap<>();
         for (int what = 0; what <= 16; what++) {
-            row.add(x.total(what));
+            row.put("total(" + what + ")", x.total(what));
         }
-        for (int rank = 0; rank < x.total(0); rank++) {
+        int cards = x.total(0);
+        for (int rank = 0; rank < cards; rank++) {
             int name = x.card(rank);
-            row.add(name);
-            for (int what = 0; what <= 2; what++) {
-                row.add(x.ofCard(name, what));
-            }
+            row.put(name + " awake", x.ofCard(name, 0));
+            row.put(name + " asks", x.ofCard(name, 1));
+            row.put(name + " told", x.ofCard(name, 2));
         }
-        for (int place = 0; place < x.total(3); place++) {
-            row.add(x.told(place));
+        int names = x.total(3);
+        for (int place = 0; place < names; place++) {
+            row.put("told(" + place + ")", x.told(place));
         }
         return row;
     }
 
     /** The same but for the history and the text, which are no part of the state. */
-    static List<Integer> stateOf(PocketCards x) {
-        List<Integer> row = everything(x);
-        row.subList(15, 17).clear();
+    static Map<String, Integer> stateOf(PocketCards x) {
+        Map<String, Integer> row = everything(x);
+        row.remove("total(15)");
+        row.remove("total(16)");
         return row;
+    }
+
+    /** What differs behind a call, as "what=value", or "what=none" if it is no longer there: this and nothing else. */
+    static void changed(String call, Consumer<PocketCards> before, ToIntFunction<PocketCards> made, int answer,
+            String... due) {
+        PocketCards x = new PocketCards();
+        before.accept(x);
+        Map<String, Integer> earlier = everything(x);
+        Checks.due(call, made.applyAsInt(x), answer);
+        Map<String, Integer> later = everything(x);
+        Set<String> got = new TreeSet<>();
+        later.forEach((what, value) -> {
+            if (!value.equals(earlier.get(what))) {
+                got.add(what + "=" + value);
+            }
+        });
+        earlier.keySet().stream().filter(what -> !later.containsKey(what)).forEach(what -> got.add(what + "=none"));
+        Set<String> want = new TreeSet<>(Arrays.asList(due));
+        Checks.due(call + " changes " + want + ", and has changed " + got, got.equals(want) ? 1 : 0, 1);
     }
 }

@@ -307,30 +307,43 @@ public final class WhatWouldBeBoundsTest {
     private static void bestFrameOfThoseThatLeave() {
         Checks.sentence("Promise 27: the cards that leave in the frame are not told");
         for (int asks = 1; asks <= 64; asks += 3) {
-            PocketCards x = leavingAlike(asks);
-            int best = 0;
-            int most = -1;
-            int least = 0;
-            for (int slots = 1; slots <= 64; slots++) {
-                PocketCards y = leavingAlike(asks);
-                int told = y.frame(slots);
-                if (told > most || (told == most && y.total(9) < least)) {
-                    best = slots;
-                    most = told;
-                    least = y.total(9);
-                }
-            }
-            Checks.due("bestFrame() with " + asks + " to go", x.bestFrame(), best);
-            Checks.due("they go on with as many", x.ofCard(0, 1), asks);
+            dueBestByTrial(10, 2, asks, 1000 * asks);
+        }
+        Checks.sentence("Promise 27: the least time, if no frame tells any");
+        // Both cards leave behind the first slot.
+        int[] starts = {23, 230};
+        int[] bests = {2, 4};
+        for (int i = 0; i < starts.length; i++) {
+            dueBestByTrial(2, 1, 1, starts[i]);
+            Checks.due("bestFrame() from " + starts[i], leavingAlike(2, 1, 1, starts[i]).bestFrame(), bests[i]);
         }
     }
 
-    private static PocketCards leavingAlike(int asks) {
-        PocketCards x = Pockets.ofSize(10);
-        for (int i = 0; i < 10; i += 2) {
+    /** Makes each frame, on a new object, to find the best one. */
+    private static void dueBestByTrial(int cards, int step, int asks, int start) {
+        int best = 0;
+        int most = -1;
+        int least = 0;
+        for (int slots = 1; slots <= 64; slots++) {
+            PocketCards y = leavingAlike(cards, step, asks, start);
+            int told = y.frame(slots);
+            if (told > most || (told == most && y.total(9) < least)) {
+                best = slots;
+                most = told;
+                least = y.total(9);
+            }
+        }
+        PocketCards x = leavingAlike(cards, step, asks, start);
+        Checks.due("bestFrame() with " + asks + " to go", x.bestFrame(), best);
+        Checks.due("they go on with as many", x.ofCard(0, 1), asks);
+    }
+
+    private static PocketCards leavingAlike(int cards, int step, int asks, int start) {
+        PocketCards x = Pockets.ofSize(cards);
+        for (int i = 0; i < cards; i += step) {
             x.leave(10 * i, asks);
         }
-        x.shuffle(1000 * asks);
+        x.shuffle(start);
         return x;
     }
 
