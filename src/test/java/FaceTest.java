@@ -19,6 +19,14 @@ public final class FaceTest {
         "count(int, int)", "walkTakes(boolean, int)", "roundsTake(int, int)", "bestFrame()", "thickest(int)"));
     private static final Set<String> CONSTANTS =
         new TreeSet<>(List.of("UNKNOWN", "OUT_OF_RANGE", "FULL", "NOT_POSSIBLE", "NONE"));
+    /** What the interface says ahead of which calls, in this order. */
+    private static final List<String> SECTIONS = List.of(
+        "// ---- cards", "put", "take", "sleep", "wakeAll", "leave", "set", "shuffle", "forget",
+        "// ---- asking", "ask", "walk", "frame", "rounds",
+        "// ---- texts", "type", "clearText", "perform",
+        "// ---- history", "undo", "keep", "restore",
+        "// ---- what there is", "card", "ofCard", "told", "total", "count",
+        "// ---- what would be; nothing changes", "walkTakes", "roundsTake", "bestFrame", "thickest");
     private static final List<String> BANNED = List.of("throw", "throws", "try", "catch", "finally", "synchronized",
         "assert", "import", "package", "protected", "native", "volatile", "transient", "goto");
 
@@ -27,7 +35,9 @@ public final class FaceTest {
         constants();
         members();
         inside();
-        source(Path.of(args.length > 0 ? args[0] : "src/main/java/PocketCards.java"));
+        String code = Files.readString(Path.of(args.length > 0 ? args[0] : "src/main/java/PocketCards.java"));
+        sections(code);
+        source(code);
         Checks.end("FaceTest");
     }
 
@@ -87,8 +97,14 @@ public final class FaceTest {
         }
     }
 
-    private static void source(Path path) throws IOException {
-        String code = Files.readString(path);
+    private static void sections(String code) {
+        Pattern line = Pattern.compile("(?m)^    (?:(// ---- .*)|public int (\\w+)\\(.*)$");
+        List<String> got = line.matcher(code).results()
+            .map(found -> found.group(1) == null ? found.group(2) : found.group(1)).toList();
+        dueTrue("what stands ahead of the calls: " + got, got.equals(SECTIONS));
+    }
+
+    private static void source(String code) {
         dueTrue("the source has plain signs", code.chars().allMatch(sign -> sign < 128));
         String bare = code.replaceAll("(?s)/\\*.*?\\*/", " ").replaceAll("//[^\n]*", " ");
         for (String word : BANNED) {

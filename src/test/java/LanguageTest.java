@@ -3,16 +3,20 @@ import com.sun.source.tree.BinaryTree;
 import com.sun.source.tree.BlockTree;
 import com.sun.source.tree.ClassTree;
 import com.sun.source.tree.CompilationUnitTree;
+import com.sun.source.tree.DoWhileLoopTree;
+import com.sun.source.tree.ForLoopTree;
 import com.sun.source.tree.LambdaExpressionTree;
 import com.sun.source.tree.MemberReferenceTree;
 import com.sun.source.tree.MethodInvocationTree;
 import com.sun.source.tree.MethodTree;
+import com.sun.source.tree.NewArrayTree;
 import com.sun.source.tree.NewClassTree;
 import com.sun.source.tree.SynchronizedTree;
 import com.sun.source.tree.ThrowTree;
 import com.sun.source.tree.Tree;
 import com.sun.source.tree.TryTree;
 import com.sun.source.tree.VariableTree;
+import com.sun.source.tree.WhileLoopTree;
 import com.sun.source.util.JavacTask;
 import com.sun.source.util.TreePath;
 import com.sun.source.util.TreePathScanner;
@@ -169,8 +173,46 @@ public final class LanguageTest extends TreePathScanner<Void, Void> {
     public Void visitNewClass(NewClassTree tree, Void none) {
         Checks.sentence("rule 2: no anonymous class");
         due(here() + "no body", tree.getClassBody() == null);
+        made();
         called((ExecutableElement) element());
         return super.visitNewClass(tree, none);
+    }
+
+    @Override
+    public Void visitNewArray(NewArrayTree tree, Void none) {
+        made();
+        return super.visitNewArray(tree, none);
+    }
+
+    /** Stricter than the rule: no call makes anything, so that a run makes just its objects of the class. */
+    private void made() {
+        Checks.sentence("rule 12: what a run makes is counted");
+        due(here() + "made by a constructor or a first value", caller().getKind() != ElementKind.METHOD);
+    }
+
+    @Override
+    public Void visitForLoop(ForLoopTree tree, Void none) {
+        loop(tree.getCondition());
+        return super.visitForLoop(tree, none);
+    }
+
+    @Override
+    public Void visitWhileLoop(WhileLoopTree tree, Void none) {
+        loop(tree.getCondition());
+        return super.visitWhileLoop(tree, none);
+    }
+
+    @Override
+    public Void visitDoWhileLoop(DoWhileLoopTree tree, Void none) {
+        loop(tree.getCondition());
+        return super.visitDoWhileLoop(tree, none);
+    }
+
+    /** A rough look: there is a comparison, and no part beside it by which the loop goes on. */
+    private void loop(Tree condition) {
+        Checks.sentence("rule 9: every loop has an end that can be seen from its own lines");
+        String words = String.valueOf(condition);
+        due(here() + "a counter against a bound", words.matches("(?s).* [<>]=? .*") && !words.contains("||"));
     }
 
     private void called(ExecutableElement method) {
